@@ -177,8 +177,7 @@ public final class QuietDuty {
 
     public long cost(int sheet, int lane, int i, int n, int which) {
         if (!isWithin(which, 0, 1)) {
-            refused(OUTSIDE);
-            return LOST;
+            return lostUnfaulted();
         }
         if (takeWay(sheet, lane, i, n) < 0) {
             return LOST;
@@ -233,8 +232,7 @@ public final class QuietDuty {
 
     public long worth(int k, int sheet, int lane, int i, int n) {
         if (!border.hasSilence(k)) {
-            refused(UNKNOWN);
-            return LOST;
+            return lostUnfaulted();
         }
         if (takeWay(sheet, lane, i, n) < 0) {
             return LOST;
@@ -405,10 +403,8 @@ public final class QuietDuty {
     }
 
     public long cell(int k, int i, int lane) {
-        int refusal = refusalOfRow(k, lane);
-        if (refusal != 0) {
-            refused(refusal);
-            return LOST;
+        if (refusalOfRow(k, lane) != 0) {
+            return lostUnfaulted();
         }
         Sheet from = sheets[k];
         int fault = from.faultAs(lane);
@@ -518,6 +514,11 @@ public final class QuietDuty {
     private int refused(int refusal) {
         latestFault = 0;
         return refusal;
+    }
+
+    private long lostUnfaulted() {
+        latestFault = 0;
+        return LOST;
     }
 
     private int faulted(int fault) {
@@ -956,7 +957,10 @@ public final class QuietDuty {
             return sum;
         }
 
-        /** What is paid for a SILENCE where it is heard first, in PARTS: each stop costs one of the eight zeros. */
+        /**
+         * What is paid in the mean for a SILENCE where it is heard first, in PARTS. A tenth is always
+         * whole: each of the stops, 8 at most, takes one of the eight zeros of PARTS.
+         */
         private long meanTaken(Border border, int k) {
             long unheard = PARTS;
             long sum = 0;

@@ -53,7 +53,9 @@ final class OracleTest {
                 frontier();
             } else if (what < 8) {
                 way();
-            } else if (what < 14) {
+            } else if (what < 10) {
+                cells();
+            } else if (what < 16) {
                 int p = random.nextInt(4);
                 call("reading", p, Math.max(0, oracle.duty(p)));
             } else {
@@ -107,6 +109,22 @@ final class OracleTest {
         call("cost", sheet, lane, 0, n, 1);
         call("say", sheet, lane, 0, n);
         call("worth", random.nextInt(4), sheet, lane, 0, n);
+    }
+
+    /** Numbers that are cut go to a sheet, move within it or to another one, and are read again. */
+    private void cells() {
+        int from = random.nextInt(4);
+        int to = random.nextInt(4);
+        int lane = random.nextInt(3);
+        call("sheet", from, lane, 4);
+        call("sheet", to, random.nextInt(5) == 0 ? random.nextInt(3) : lane, 4);
+        for (int i = 0; i < 4; i++) {
+            call("put", from, i, random.nextInt());
+        }
+        call("copy", from, random.nextInt(3), to, random.nextInt(3), random.nextInt(4));
+        for (int i = 0; i < 4; i++) {
+            call("cell", to, i, lane);
+        }
     }
 
     private void any() {
