@@ -133,6 +133,9 @@ final class Part3Bounds {
     }
 
     static void promise14ThereAreFewer() {
+        for (int k : new int[] {4, 5, HIGH}) {
+            Bounds.leaves("14 of four: " + k, Scenes::full, x -> x.pack(k), NONE);
+        }
         for (int silences = 1; silences <= 4; silences++) {
             String text = Scenes.text(2, silences);
             for (int k : new int[] {silences, silences + 1, HIGH}) {
